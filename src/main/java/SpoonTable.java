@@ -787,6 +787,16 @@ public final class SpoonTable {
         return (bits >> bit & 1) == 1;
     }
 
+    private static int sumOf(int bits, int[] row) {
+        int sum = 0;
+        for (int k = 0; k < row.length; k++) {
+            if (has(bits, k)) {
+                sum += row[k];
+            }
+        }
+        return sum;
+    }
+
     private static boolean reaches(int kind, int handle, int far, int slack) {
         return Math.abs(far - handle) <= slack
             || kind == HINGED && Math.abs(far - handle / 2) <= slack;
@@ -1335,7 +1345,11 @@ public final class SpoonTable {
             }
             names[told.people] = reader.word;
             reader.step();
-            if (!keyword(AT) || !isWhole(0, told.seats - 1)) {
+            if (!isKeyword(AT)) {
+                return false;
+            }
+            reader.step();
+            if (!isWhole(0, told.seats - 1)) {
                 return false;
             }
             if (isTaken(reader.value)) {
@@ -1481,12 +1495,8 @@ public final class SpoonTable {
             return reader.word == RINGED_WORD ? RINGED : NONE;
         }
 
-        private boolean keyword(long word) {
-            if (reader.word != word) {
-                return wrong(FORM);
-            }
-            reader.step();
-            return true;
+        private boolean isKeyword(long word) {
+            return reader.word == word || wrong(FORM);
         }
 
         private boolean isWhole(int least, int most) {
@@ -1498,7 +1508,11 @@ public final class SpoonTable {
 
         /** The number behind this word; below 0 by a fault. */
         private int amount(long word, int least, int most) {
-            if (!keyword(word) || !isWhole(least, most)) {
+            if (!isKeyword(word)) {
+                return NONE;
+            }
+            reader.step();
+            if (!isWhole(least, most)) {
                 return NONE;
             }
             int value = reader.value;
@@ -1641,16 +1655,6 @@ public final class SpoonTable {
         }
     }
 
-    private static int sumOf(int bits, int[] row) {
-        int sum = 0;
-        for (int k = 0; k < row.length; k++) {
-            if (has(bits, k)) {
-                sum += row[k];
-            }
-        }
-        return sum;
-    }
-
     /** Of some items, each of two people, so many that share nobody, of the least cost. */
     private static final class Choice {
         final int[] both = new int[MOST_PAIRS];
@@ -1720,7 +1724,8 @@ public final class SpoonTable {
                 return;
             }
             fresh = true;
-            prepare();
+            setReaches();
+            setHopes();
             worth[0] = 0;
             bestWorth = -1;
             place(0, 0);
@@ -1731,7 +1736,7 @@ public final class SpoonTable {
             return (bestWorth + FED_WORTH - 1) / FED_WORTH;
         }
 
-        private void prepare() {
+        private void setReaches() {
             for (int k = 0; k < now.pairs; k++) {
                 farBits[k] = 0;
                 for (int far = 1; far < board.seats; far++) {
@@ -1743,19 +1748,22 @@ public final class SpoonTable {
             for (int p = 0; p < board.people; p++) {
                 for (int q = 0; q < p; q++) {
                     pairAt[q * MOST_PEOPLE + p] = now.find(q, p);
-                    hope[q * MOST_PEOPLE + p] = hopeOf(q, p);
                 }
             }
         }
 
-        private int hopeOf(int q, int p) {
-            int most = 0;
-            for (int a = 0; a < board.seats; a++) {
-                for (int b = 0; b < a; b++) {
-                    most = Math.max(most, gainOf(q, p, a, b));
+        private void setHopes() {
+            for (int p = 0; p < board.people; p++) {
+                for (int q = 0; q < p; q++) {
+                    int most = 0;
+                    for (int a = 0; a < board.seats; a++) {
+                        for (int b = 0; b < a; b++) {
+                            most = Math.max(most, gainOf(q, p, a, b));
+                        }
+                    }
+                    hope[q * MOST_PEOPLE + p] = most;
                 }
             }
-            return most;
         }
 
         /** What two are worth at two seats; 0 if they can't feed there. */

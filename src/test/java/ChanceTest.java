@@ -108,6 +108,8 @@ public final class ChanceTest {
         // 65536 stays itself, and 36 is below 50.
         Check.due("65536, 2 years", x.drawnHandle(0, 65536, 2), 1);
         Check.due("65536, 60 years", x.drawnHandle(0, 65536, 60), 0);
+        Check.due("65536, fed", x.drawnFed(65536, 60), 0);
+        Check.due("trouble", x.trouble(), 0);
         Check.due("1, 60 years", x.drawnHandle(0, 1, 60), drawn(1, 60));
         Check.due("below, not at", two(2, 74, 4, 3, "plain").drawnHandle(0, 0, 1), 4);
         Check.due("below", two(2, 75, 4, 3, "plain").drawnHandle(0, 0, 1), 2);
