@@ -1708,6 +1708,8 @@ public final class SpoonTable {
         final int[] row = new int[MOST_PEOPLE];
         final int[] pairAt = new int[MOST_PEOPLE * MOST_PEOPLE];
         final int[] hope = new int[MOST_PEOPLE * MOST_PEOPLE];
+        final int[] hopeAt = new int[MOST_PEOPLE * MOST_PEOPLE * MOST_SEATS];
+        final int[] slopAt = new int[MOST_SEATS * MOST_SEATS];
         final int[] farBits = new int[MOST_PAIRS];
         final int[] gain = new int[MOST_PEOPLE];
         final int[] worth = new int[1 << MOST_PEOPLE];
@@ -1725,6 +1727,7 @@ public final class SpoonTable {
             }
             fresh = true;
             setReaches();
+            setSlops();
             setHopes();
             worth[0] = 0;
             bestWorth = -1;
@@ -1752,18 +1755,36 @@ public final class SpoonTable {
             }
         }
 
+        private void setSlops() {
+            for (int a = 0; a < board.seats; a++) {
+                for (int b = 0; b < board.seats; b++) {
+                    slopAt[a * MOST_SEATS + b] = slopped(a, b, board.forkBits);
+                }
+            }
+        }
+
         private void setHopes() {
             for (int p = 0; p < board.people; p++) {
                 for (int q = 0; q < p; q++) {
-                    int most = 0;
-                    for (int a = 0; a < board.seats; a++) {
-                        for (int b = 0; b < a; b++) {
-                            most = Math.max(most, gainOf(q, p, a, b));
-                        }
+                    int two = q * MOST_PEOPLE + p;
+                    hope[two] = 0;
+                    for (int s = 0; s < board.seats; s++) {
+                        hopeAt[two * MOST_SEATS + s] = hopeFrom(q, p, s);
+                        hope[two] = Math.max(hope[two], hopeAt[two * MOST_SEATS + s]);
                     }
-                    hope[q * MOST_PEOPLE + p] = most;
                 }
             }
+        }
+
+        /** The most that two can be worth if q sits there. */
+        private int hopeFrom(int q, int p, int seat) {
+            int most = 0;
+            for (int s = 0; s < board.seats; s++) {
+                if (s != seat) {
+                    most = Math.max(most, gainOf(q, p, seat, s));
+                }
+            }
+            return most;
         }
 
         /** What two are worth at two seats; 0 if they can't feed there. */
@@ -1772,7 +1793,7 @@ public final class SpoonTable {
             if (k < 0 || !has(farBits[k], Math.abs(a - b))) {
                 return 0;
             }
-            return FED_WORTH - slopped(a, b, board.forkBits);
+            return FED_WORTH - slopAt[a * MOST_SEATS + b];
         }
 
         private void place(int p, int taken) {
@@ -1800,7 +1821,8 @@ public final class SpoonTable {
         private int hopedBehind(int p) {
             for (int later = p; later < board.people; later++) {
                 for (int q = 0; q < later; q++) {
-                    gain[q] = hope[q * MOST_PEOPLE + later];
+                    int two = q * MOST_PEOPLE + later;
+                    gain[q] = q < p ? hopeAt[two * MOST_SEATS + row[q]] : hope[two];
                 }
                 spread(later);
             }

@@ -10,6 +10,7 @@ import java.util.Random;
 public final class ModelTest {
     private static final int RUNS = 600;
     private static final int CALLS = 200;
+    private static final int SEATINGS = 60;
     private static final String[] KINDS = {"plain", "hinged", "ringed"};
     private static final String[] NAMES = {"ada", "b", "at", "years", "zzzzzzzz", "fed"};
 
@@ -28,6 +29,9 @@ public final class ModelTest {
         List<Method> face = face();
         for (long seed = from; seed < from + runs; seed++) {
             new ModelTest(seed).run(face);
+        }
+        for (long seed = from; seed < from + Math.min(runs, SEATINGS); seed++) {
+            new ModelTest(seed).seats();
         }
         Check.end();
     }
@@ -58,6 +62,16 @@ public final class ModelTest {
                     both(m, with);
                 }
             }
+        }
+    }
+
+    /** The dearest search, on tables of whatever size. */
+    private void seats() throws Exception {
+        lay(text(false));
+        both(SpoonTable.class.getMethod("seating"), new Object[0]);
+        both(SpoonTable.class.getMethod("seatSlops"), new Object[0]);
+        for (int p = 0; p < model.size(4); p++) {
+            both(SpoonTable.class.getMethod("seatAt", int.class), new Object[] {p});
         }
     }
 
