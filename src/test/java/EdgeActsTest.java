@@ -15,6 +15,7 @@ public final class EdgeActsTest {
         undoOfSixteen();
         undoBehindMany();
         noUndo();
+        seatsAnew();
         image();
         noImage();
         back();
@@ -286,6 +287,35 @@ public final class EdgeActsTest {
         x.know(0, 0);
         x.image();
         Edge.due("what was refused is no act, nor is an image", x.undo(), false);
+    }
+
+    /** What all would sit by is found anew behind whatever changes it: a b are to sit so far apart. */
+    private static void seatsAnew() {
+        Edge.promise(55, "UNDO: true; false: 6.");
+        SpoonTable x = Tables.of("seats 10 slack 0 saw 2 quarrel 50", "person a at 9", "person b at 8", "person c at 7",
+            "known a b years 3 plain").get();
+        x.image();
+        seatOfB(x, "at first", 3);
+        x.year();
+        seatOfB(x, "behind a year", 4);
+        x.quarrel(0);
+        seatOfB(x, "behind a quarrel", 2);
+        x.undo();
+        seatOfB(x, "the quarrel undone", 4);
+        x.undo();
+        seatOfB(x, "the year undone", 3);
+        x.sit(0, 5);
+        x.know(1, 2);
+        x.year();
+        // Now b c are an inch, a b four.
+        seatOfB(x, "with an acquaintance", 1);
+        x.back(0);
+        seatOfB(x, "gone back", 3);
+    }
+
+    private static void seatOfB(SpoonTable x, String what, int seat) {
+        Edge.due("fed " + what, x.seating(), 2);
+        Edge.due("b's seat " + what, x.seatAt(1), seat);
     }
 
     // ---- images

@@ -35,6 +35,11 @@ public final class EdgeFitsTest {
         return Tables.of(FOUR, UNSURE, "tried a b starved", "tried a c starved", "tried b c starved", "tried a d fed");
     }
 
+    /** The first and the third had the other years, the second its own; and a line more. */
+    private static Supplier<SpoonTable> someOther(String more) {
+        return Tables.of(FOUR, UNSURE, "tried a b starved", "tried a c fed", "tried b c starved", more);
+    }
+
     /** The first three had their years as told; of a d nothing is known. */
     private static Supplier<SpoonTable> lastFree() {
         return Tables.of(FOUR, UNSURE, "tried a b fed", "tried a c fed", "tried b c fed");
@@ -91,6 +96,8 @@ public final class EdgeFitsTest {
         Edge.answers("no set", noFits("unsure a b 5"), SpoonTable::surely, 0);
         Edge.answers("none is in all", sixteen(), SpoonTable::surely, 0);
         Edge.answers("all, in the only set", allOther(), SpoonTable::surely, 15);
+        Edge.answers("some, in the only set", someOther("tried a d starved"), SpoonTable::surely, 5);
+        Edge.answers("some, in two sets", someOther("fork 0"), SpoonTable::surely, 5);
         Edge.answers("the first alone", Tables.of(FOUR, UNSURE, "tried a b starved"), SpoonTable::surely, 1);
         Edge.answers("the last alone", Tables.of(FOUR, UNSURE, "tried a d fed"), SpoonTable::surely, 8);
         Edge.promise(40, "NONE: 1 (no TABLE).");
@@ -104,6 +111,7 @@ public final class EdgeFitsTest {
         Edge.answers("neither", noFits("fork 0"), SpoonTable::ask, -2);
         Edge.answers("like ones: the first", sixteen(), SpoonTable::ask, 0);
         Edge.answers("the last", lastFree(), SpoonTable::ask, 3);
+        Edge.answers("not one that is in all", someOther("fork 0"), SpoonTable::ask, 3);
         Edge.answers("nothing left to ask: the first", allOther(), SpoonTable::ask, 0);
         Edge.promise(41, "NONE: 1 (no TABLE).");
         Edge.noTable("ask()", SpoonTable::ask, -1);
@@ -115,6 +123,7 @@ public final class EdgeFitsTest {
         Edge.answers("no fits, though a pair is unsure", noFits("unsure a b 5"), SpoonTable::askLeaves, -2);
         Edge.answers("the most", sixteen(), SpoonTable::askLeaves, 8);
         Edge.answers("the fewest", lastFree(), SpoonTable::askLeaves, 1);
+        Edge.answers("the fewest, some being in all", someOther("fork 0"), SpoonTable::askLeaves, 1);
         Edge.answers("the only one stays", allOther(), SpoonTable::askLeaves, 1);
         Edge.promise(42, "NONE: 1 (no TABLE).");
         Edge.noTable("askLeaves()", SpoonTable::askLeaves, -1);

@@ -51,6 +51,8 @@ public final class EdgeSawsTest {
         Edge.answers("ringed: it can", two(0, 1, 99, "ringed"), SpoonTable::saws, 0);
         Edge.answers("ringed: it can't be sawn", two(0, 2, 99, "ringed"), SpoonTable::saws, -2);
         Edge.answers("one pair of three people", three(0, 5), SpoonTable::saws, 3);
+        Edge.answers("none to saw, though another could be", three(1, 9), SpoonTable::saws, 0);
+        Edge.answers("none to saw, though one ahead could be", three(9, 2), SpoonTable::saws, 0);
         Edge.answers("one pair of four people", Tables.of(TEN, "person a at 0", "person b at 1", "person c at 3", "person d at 4",
             "known a b years 1 plain"), SpoonTable::saws, -2);
         // Of five a b and c d, by 8 and 8.
@@ -124,6 +126,22 @@ public final class EdgeSawsTest {
         Edge.answers("the last of ten twos", Tables.of(TEN, "person a at 9", "person b at 0", "person c at 3", "person d at 4",
             "person e at 7", "known b c years 0 plain"), x -> x.meetAt(3), 512);
         Edge.answers("like ones: the least bits", Tables.of(TEN, "person a at 1", "person b at 0", "person c at 2"), x -> x.meetAt(1), 1);
+        // ac with bd, ab with cd: one new two each, the rings of bd and cd being told.
+        Supplier<SpoonTable> rings = Tables.of("seats 10 slack 3 saw 1 quarrel 0", "person a at 0", "person b at 1", "person c at 2",
+            "person d at 3", "known b d years 9 ringed", "known c d years 9 ringed");
+        Edge.answers("like ones, told later", rings, x -> x.meetAt(0), 1);
+        Edge.answers("like ones, how many", rings, x -> x.meet(0), 1);
+        // a b by their ring, or a c, or b c.
+        Supplier<SpoonTable> ring = Tables.of("seats 10 slack 3 saw 1 quarrel 0", "person a at 0", "person b at 1", "person c at 2",
+            "known a b years 9 ringed");
+        Edge.answers("none, though others could", ring, x -> x.meetAt(0), 0);
+        Edge.answers("none, how many", ring, x -> x.meet(0), 0);
+        SpoonTable turns = rings.get();
+        for (int i = 0; i < 3; i++) {
+            Edge.due("by turns: saws()", turns.saws(), -2);
+            Edge.due("by turns: meetAt(0)", turns.meetAt(0), 1);
+            Edge.due("by turns: meet(0)", turns.meet(0), 1);
+        }
         // The twos of three people are ab ac bc.
         Edge.answers("the last of three twos", Tables.of(TEN, "person a at 9", "person b at 0", "person c at 2"), x -> x.meetAt(2), 4);
     }
@@ -177,6 +195,8 @@ public final class EdgeSawsTest {
         Supplier<SpoonTable> longer = Tables.of("seats 10 slack 1 saw 1 quarrel 0", "person a at 0", "person b at 1", "person c at 3",
             "known a b years 1 plain", "known b c years 2 plain");
         Edge.answers("the longer handle, one of them not fed", longer, SpoonTable::leaves, 1);
+        Edge.answers("the longer handle, told first", Tables.of("seats 10 slack 1 saw 1 quarrel 0", "person a at 0", "person b at 1",
+            "person c at 3", "known b c years 2 plain", "known a b years 1 plain"), SpoonTable::leaves, 0);
         // Of like handles b rather has a, though c is not fed.
         Supplier<SpoonTable> like = Tables.of("seats 10 slack 1 saw 1 quarrel 0", "person a at 0", "person b at 1", "person c at 3",
             "known a b years 1 plain", "known b c years 1 plain");

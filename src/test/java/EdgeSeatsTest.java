@@ -138,6 +138,10 @@ public final class EdgeSeatsTest {
             x -> x.better(0), -2);
         Edge.answers("somebody sits there", Tables.of(TEN, "person a at 1", "person b at 0", "known a b years 9 plain", "person c at 9"),
             x -> x.better(0), -2);
+        Edge.answers("there is no seat ahead of the first", Tables.of(TEN, "person a at 9", "person b at 0", "person c at 1",
+            "known a b years 1 plain"), x -> x.better(0), -2);
+        Edge.answers("nor behind the last", Tables.of(TEN, "person a at 0", "person b at 9", "person c at 8",
+            "known a b years 1 plain"), x -> x.better(0), -2);
         Edge.answers("one whom nobody knows", Tables.of(TEN, "person a at 0", "person b at 2", "person c at 5",
             "known a b years 1 plain"), x -> x.better(2), -2);
     }

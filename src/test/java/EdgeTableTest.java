@@ -135,9 +135,19 @@ public final class EdgeTableTest {
         Edge.due("undo()", x.undo(), false);
         Edge.due("trouble()", x.trouble(), 6);
         Edge.due("the first image again", x.image(), 0);
+        Edge.due("what all sat by is gone, too", x.seating(), 4);
         Edge.due("of fewer people", Check.lay(x, Tables.SMALL), 1);
+        Edge.due("seats for all, anew", x.seating(), 0);
         Edge.due("no pair is left", x.size(6), 0);
         Edge.due("seat(1)", x.seat(1), -1);
+        String pair = HEAD + ";person a at 0;person b at 5;known a b years 5 plain;tried a b ";
+        Check.lay(x, pair + "fed");
+        Edge.due("fed, as tried", x.judge(), -2);
+        Check.lay(x, pair + "starved");
+        Edge.due("starved, not as tried", x.judge(), 0);
+        Check.lay(x, pair + "fed;");
+        Check.lay(x, pair + "starved");
+        Edge.due("nor behind a refused text", x.judge(), 0);
     }
 
     private static void refusedNumbers() {

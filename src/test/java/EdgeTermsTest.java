@@ -1,3 +1,4 @@
+import java.util.Arrays;
 import java.util.LinkedHashMap;
 import java.util.Map;
 import java.util.function.Supplier;
@@ -189,9 +190,60 @@ public final class EdgeTermsTest {
         // A fork lies between 3 and 6, but not between 2 and 5.
         seatsAre("least is slopped", Tables.of(TEN, "person a at 9", "person b at 8", "known a b years 3 plain", "fork 5").get(),
             2, 0, 3, 6);
+        seatsAre("least is slopped, by slack", Tables.of("seats 10 slack 2 saw 1 quarrel 0", "person a at 9", "person b at 8",
+            "known a b years 4 plain").get(), 2, 2, 0, 2);
+        seatsAre("least is slopped, hinged", Tables.of(TEN, "person a at 9", "person b at 8", "known a b years 6 hinged").get(), 2, 3, 0, 3);
+        seatsAre("the ends, behind one who is alone", Tables.of(TEN, "person a at 0", "person b at 1", "person c at 2",
+            "known b c years 9 plain").get(), 2, 9, 1, 0, 9);
+        seatsAre("the ends, behind two", Tables.of(TEN, "person a at 0", "person b at 1", "person c at 2", "person d at 3", "person e at 4",
+            "known d e years 9 plain", "known b c years 7 plain").get(), 4, 16, 2, 1, 8, 0, 9);
         // Most are fed, though the first pair alone would slop less.
         seatsAre("most are fed", Tables.of("seats 4 slack 0 saw 1 quarrel 0", "person a at 0", "person b at 1", "person c at 2", "person d at 3",
             "known a b years 3 plain", "known c d years 1 plain").get(), 4, 4, 0, 3, 1, 2);
+        seatingOfAllRows();
+    }
+
+    /** Every row of seats is told as a table of its own; the best of them by fed() and slops() is due. */
+    private static void seatingOfAllRows() {
+        String[][] tables = {
+            {"known a b years 4 plain", "known b c years 1 plain", "known c d years 2 plain", "known d e years 3 plain", "known a e years 5 hinged"},
+            {"known e d years 5 plain", "known c b years 4 hinged", "known a d years 9 ringed", "fork 2", "fork 4"},
+            {"known a c years 3 plain", "known a e years 3 plain", "known c e years 3 plain", "known b d years 2 hinged", "fork 1"},
+            {"known b e years 5 plain", "known a e years 4 plain", "known a d years 4 plain", "known c d years 5 plain", "fork 3", "fork 0"},
+            {"known d e years 9 plain", "known a b years 9 hinged", "known b c years 9 ringed", "known a c years 1 ringed"},
+        };
+        for (int slack = 0; slack <= 1; slack++) {
+            for (String[] known : tables) {
+                allRows("seats 6 slack " + slack + " saw 1 quarrel 0", String.join(";", known));
+            }
+        }
+    }
+
+    private static SpoonTable rowOf(String head, int[] row, String known) {
+        StringBuilder text = new StringBuilder(head);
+        for (int p = 0; p < row.length; p++) {
+            text.append(";person ").append((char) ('a' + p)).append(" at ").append(row[p]);
+        }
+        return Tables.of(text.toString(), known).get();
+    }
+
+    private static void allRows(String head, String known) {
+        int[] best = null;
+        int fed = -1;
+        int slops = 0;
+        for (int rows = 0; rows < 6 * 6 * 6 * 6 * 6; rows++) {
+            int[] row = {rows / 1296, rows / 216 % 6, rows / 36 % 6, rows / 6 % 6, rows % 6};
+            if (Arrays.stream(row).distinct().count() == 5) {
+                SpoonTable x = rowOf(head, row, known);
+                int count = x.fed();
+                if (count > fed || count == fed && x.slops() < slops) {
+                    best = row;
+                    fed = count;
+                    slops = x.slops();
+                }
+            }
+        }
+        seatsAre(known, rowOf(head, new int[] {5, 4, 3, 2, 1}, known), fed, slops, best);
     }
 
     private static void saws() {

@@ -190,6 +190,8 @@ public final class EdgeTextTest {
         fault(HEAD + ";;person a at 0", 1, 38);
         fault(HEAD + ":person a at 0", 1, 37);
         fault(HEAD + "<person a at 0", 1, 37);
+        fault(HEAD + " 0000 person a at 0", 1, 38);
+        fault(HEAD + " abcdefghi person a at 0", 1, 38);
     }
 
     private static void lines() {
@@ -531,6 +533,12 @@ public final class EdgeTextTest {
         fault(KNOWN + ";known a a", 3, KNOWN.length() + 9);
         fault(KNOWN + ";known a b", 3, KNOWN.length() + 9);
         fault(KNOWN + ";known b a", 3, KNOWN.length() + 9);
+        String last = allKnown() + ";unsure a b 1;unsure a c 1;unsure e d 1;tried a b fed;tried a c fed;tried e d fed";
+        fault(last + ";unsure d e", 3, last.length() + 10);
+        fault(last + ";tried d e", 3, last.length() + 9);
+        String nine = people(5) + twos(9, "known", " years 1 plain");
+        fault(nine + ";known c e", 3, nine.length() + 9);
+        fault(nine + ";known e c", 3, nine.length() + 9);
         fault(KNOWN + ";unsure a b 1;unsure a b", 3, KNOWN.length() + 23);
         fault(KNOWN + ";unsure a b 1;unsure b a", 3, KNOWN.length() + 23);
         fault(KNOWN + ";tried a b fed;tried a b", 3, KNOWN.length() + 23);
